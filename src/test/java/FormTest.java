@@ -1,0 +1,130 @@
+import java.lang.reflect.Constructor;
+import java.lang.reflect.Field;
+import java.lang.reflect.Method;
+import java.lang.reflect.Modifier;
+import java.nio.file.Files;
+import java.nio.file.Path;
+import java.util.ArrayList;
+import java.util.Arrays;
+import java.util.Collections;
+import java.util.List;
+import java.util.Set;
+import java.util.TreeSet;
+import java.util.regex.Matcher;
+import java.util.regex.Pattern;
+
+/** The document's public face, and the rules of LANGUAGE.md that can be read off the file. */
+public final class FormTest {
+    private static final Path FILE = Path.of("src/main/java/MarkScripts.java");
+    private static final String FACE = """
+        row 2, lay 3, at 2, tear 1, copy 5, mean 1, text 2, put 3, fault 1, document 2, write 2, node 3,
+        mark 3, least 0, cost 2, partner 2, step 2, behind 2, work 1, nearest 2, would 3, change 3, cut 2,
+        add 5, price 2, turn 0, undo 1, keep 1, on 1, lots 2, asked 0, count 1, finding 0, findings 1, digest 0""";
+    private static final String WORDS = "throw|throws|try|catch|finally|synchronized|assert|import|package|volatile"
+        + "|native|Object|System\\.(?!arraycopy)\\w+|var|Exception|Error|Random|Thread|Math\\.(?!min|max|abs)\\w+|\\w+Exact";
+
+    public static void main(String[] args) throws Exception {
+        checkMembers();
+        checkConstants();
+        String source = Files.readString(FILE);
+        checkWords(withoutComments(source));
+        checkLengths(source);
+        Calls.end("FormTest");
+    }
+
+    private static void checkMembers() {
+        Set<String> due = new TreeSet<>();
+        for (String entry : FACE.replaceAll("\\s+", " ").split(", ")) {
+            due.add(entry.strip());
+        }
+        Set<String> got = new TreeSet<>();
+        Set<String> names = new TreeSet<>();
+        for (Method method : MarkScripts.class.getDeclaredMethods()) {
+            if (!Modifier.isPrivate(method.getModifiers())) {
+                got.add(method.getName() + " " + method.getParameterCount());
+                names.add(method.getName());
+                Class<?> type = method.getName().equals("digest") ? long.class : int.class;
+                same(method + " returns", method.getReturnType(), type);
+                same(method + " is", method.getModifiers(), Modifier.PUBLIC);
+                same(method + " takes ints", Arrays.stream(method.getParameterTypes()).allMatch(t -> t == int.class), true);
+            }
+        }
+        same("the public methods", got, due);
+        for (Method method : MarkScripts.class.getDeclaredMethods()) {
+            if (Modifier.isPrivate(method.getModifiers())) {
+                same(method.getName() + " is a public name", names.contains(method.getName()), false);
+            }
+        }
+        checkClasses(names);
+    }
+
+    private static void checkClasses(Set<String> names) {
+        Constructor<?>[] constructors = MarkScripts.class.getDeclaredConstructors();
+        same("constructors", constructors.length, 1);
+        same("the constructor takes", constructors[0].getParameterCount(), 0);
+        same("the class", MarkScripts.class.getModifiers(), Modifier.PUBLIC | Modifier.FINAL);
+        same("at most twelve classes", MarkScripts.class.getDeclaredClasses().length < 12, true);
+        for (Class<?> inside : MarkScripts.class.getDeclaredClasses()) {
+            same(inside + " is static", Modifier.isStatic(inside.getModifiers()), true);
+            same(inside + " is public", Modifier.isPublic(inside.getModifiers()), false);
+            same(inside + " has few fields", fieldsOf(inside) <= 20, true);
+            for (Method method : inside.getDeclaredMethods()) {
+                same(method + " has a public name", names.contains(method.getName()), false);
+                same(method + " has few parameters", method.getParameterCount() <= 7, true);
+            }
+        }
+        same("the class has few fields", fieldsOf(MarkScripts.class) <= 20, true);
+    }
+
+    private static long fieldsOf(Class<?> type) {
+        return Arrays.stream(type.getDeclaredFields()).filter(f -> !Modifier.isStatic(f.getModifiers())).count();
+    }
+
+    private static void checkConstants() throws IllegalAccessException {
+        List<String> got = new ArrayList<>();
+        for (Field field : MarkScripts.class.getDeclaredFields()) {
+            int modifiers = field.getModifiers();
+            if (Modifier.isStatic(modifiers)) {
+                same(field + " is final", Modifier.isFinal(modifiers), true);
+            }
+            if (!Modifier.isPrivate(modifiers)) {
+                same(field + " is public", Modifier.isPublic(modifiers), true);
+                got.add(field.getName() + " " + field.getInt(null));
+            }
+        }
+        Collections.sort(got);
+        same("the constants", got.toString(), "[BAD -1, FINDING -3, FULL -2, NONE -9, SPENT -6, STATE -4]");
+    }
+
+    private static String withoutComments(String source) {
+        return source.replaceAll("(?s)/\\*.*?\\*/", " ").replaceAll("//[^\n]*", " ");
+    }
+
+    private static void checkWords(String code) {
+        Matcher words = Pattern.compile("\\b(" + WORDS + ")\\b|->|::|@").matcher(code);
+        while (words.find()) {
+            Calls.fail("the file uses " + words.group());
+        }
+        same("only these words are refused", code.contains("public final class MarkScripts"), true);
+    }
+
+    /** A method begins at a line that ends with an open brace behind parentheses, one level in. */
+    private static void checkLengths(String source) {
+        String[] lines = source.split("\n");
+        int start = -1;
+        String indent = "";
+        for (int i = 0; i < lines.length; i++) {
+            if (lines[i].matches("( {4}| {8})[a-zA-Z].*\\) \\{") && !lines[i].matches(" +(for|if|while|switch|else) .*")) {
+                start = i;
+                indent = lines[i].replaceAll("\\S.*", "");
+            } else if (start >= 0 && lines[i].equals(indent + "}")) {
+                same("line " + (start + 1) + " begins a short method", i - start <= 60, true);
+                start = -1;
+            }
+        }
+    }
+
+    private static void same(String what, Object got, Object due) {
+        Calls.equal(what + " (" + got + ")", got.equals(due) ? 1 : 0, 1);
+    }
+}
