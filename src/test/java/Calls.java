@@ -69,7 +69,7 @@ final class Calls {
 
     private static List<String> split(String script) {
         List<String> lines = new ArrayList<>();
-        for (String line : script.replaceAll("\\s+", " ").split(";")) {
+        for (String line : script.replace('\n', ' ').split(";")) {
             if (!line.isBlank()) {
                 lines.add(line.strip());
             }
