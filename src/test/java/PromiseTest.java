@@ -51,16 +51,19 @@ public final class PromiseTest {
             lay(0, 3, 9) = 1; row(0, 3) = 3; at(0, 3) = -3; row(0, 4) = 4; at(0, 3) = 1; asked() = 0;
             row(-1, 1) = -1; row(6, 1) = -1; row(6, -1) = -1; row(-1, -1) = -1; findings(5) = 0;
             row(1, -1) = -3; finding() = 5; row(0, -2147483648) = -3; findings(5) = 2; at(0, 3) = 1;
-            row(0, 2147483647) = -1; row(-2147483648, 0) = -1; row(2147483647, 0) = -1; count(11) = 2""");
+            row(0, 2147483647) = -1; row(-2147483648, 0) = -1; row(2147483647, 0) = -1; count(11) = 2;
+            lay(0, 0, 5) = 1; row(0, 1) = 1; at(0, 0) = 1; asked() = 0""");
         Calls.run("promise 3: lay", """
             lay(0, 0, 5) = -3; finding() = 1; row(0, 2) = 2; lay(0, 0, -5) = 1; asked() = 0; lay(0, 0, 2147483647) = 1;
             asked() = -5; lay(0, 1, 3) = 1; asked() = 0; lay(0, 0, 0) = 1; asked() = 2147483647; lay(0, 2, 1) = -3;
             finding() = 2; lay(0, -1, 1) = -3; findings(2) = 2; lay(6, 0, 1) = -1; lay(-1, 0, 1) = -1;
-            asked() = 2147483647; lay(1, 7, 1) = -3; finding() = 1; at(0, 1) = 1; asked() = 3""");
+            asked() = 2147483647; lay(1, 7, 1) = -3; finding() = 1; at(0, 1) = 1; asked() = 3;
+            row(2, 0) = 0; lay(2, 0, 1) = -3; finding() = 2""");
         Calls.run("promise 4: at", """
             at(0, -1) = -3; finding() = 1; row(0, 3) = 3; lay(0, 2, 8) = 1; at(0, 2) = 1; asked() = 8; at(0, 0) = 1;
             asked() = 0; at(0, 3) = -3; finding() = 2; at(0, -1) = -3; at(0, 2147483647) = -3; at(0, -2147483648) = -3;
-            findings(2) = 4; at(6, 0) = -1; at(-1, 0) = -1; at(1, 0) = -3; finding() = 1; asked() = 0""");
+            findings(2) = 4; at(6, 0) = -1; at(-1, 0) = -1; at(1, 0) = -3; finding() = 1; asked() = 0;
+            row(2, 0) = 0; at(2, 0) = -3; finding() = 2""");
         Calls.run("promise 5: tear", """
             tear(0) = -3; finding() = 1; row(0, 0) = 0; row(1, 2) = 2; tear(0) = 1; count(11) = 1; at(0, 0) = -3;
             finding() = 1; tear(0) = -3; at(1, 1) = 1; tear(6) = -1; tear(-1) = -1; row(5, 1) = 1; tear(5) = 1;
@@ -79,6 +82,9 @@ public final class PromiseTest {
             row(3, 3) = 3; copy(0, 2, 3, 1, 2) = 1; at(3, 0); asked() = 0; at(3, 1); asked() = 3; at(3, 2);
             asked() = 4; at(0, 2); asked() = 3; copy(0, 5, 3, 3, 0) = 1; copy(0, 0, 0, 0, 5) = 1;
             copy(0, 5, 3, 3, 1) = -3; finding() = 2; asked() = 3""");
+        Calls.run("promise 6: copy of no elements of an empty array", five + """
+            row(1, 0) = 0; copy(1, 0, 0, 5, 0) = 1; copy(0, 5, 1, 0, 0) = 1; copy(1, 0, 1, 0, 0) = 1; finding() = 0;
+            copy(1, 0, 0, 0, 1) = -3; finding() = 2; copy(0, 0, 1, 0, 1) = -3; findings(2) = 2; findings(1) = 0""");
         Calls.run("promise 6: errors of copy", five + """
             copy(6, 0, 0, 0, -1) = -1; copy(0, 0, 6, 0, -1) = -1; copy(-1, 0, 0, 0, 1) = -1; copy(0, 0, -1, 0, 1) = -1;
             finding() = 0; copy(1, 0, 0, 0, -1) = -3; finding() = 5; copy(1, -1, 0, 0, 1) = -3; finding() = 1;
@@ -96,7 +102,9 @@ public final class PromiseTest {
             lay(0, 0, 2147483647); lay(0, 1, 2147483647); mean(0) = 1; asked() = 2147483647;
             lay(0, 0, -2147483648); lay(0, 1, -2147483648); mean(0) = 1; asked() = -2147483648;
             row(1, 3) = 3; lay(1, 0, -1); lay(1, 1, -1); mean(1) = 1; asked() = 0; lay(1, 2, -2); mean(1) = 1;
-            asked() = -1; row(2, 1) = 1; lay(2, 0, 42); mean(2) = 1; asked() = 42; findings(4) = 1; findings(1) = 1""");
+            asked() = -1; row(2, 1) = 1; lay(2, 0, 42); mean(2) = 1; asked() = 42; findings(4) = 1; findings(1) = 1;
+            row(3, 40) = 40; lay(3, 0, 40); lay(3, 39, 80); mean(3) = 1; asked() = 3; copy(3, 0, 3, 20, 20) = 1;
+            lay(3, 39, 0); mean(3) = 1; asked() = 2""");
     }
 
     private static void texts() {
@@ -156,7 +164,8 @@ public final class PromiseTest {
             type(0, 'a(b)'); document(0, 0) = 2; price(0, 2) = 1; keep(1) = 1; document(2, 0) = -1; document(-1, 0) = -1;
             document(0, 4) = -1; document(0, -1) = -1; document(2, 3) = -1; finding() = 0; document(1, 3) = -3;
             finding() = 1; type(1, 'a('); document(0, 1) = -4; document(1, 1) = -4; count(0) = 2; count(1) = 0;
-            count(10) = 1; count(13) = 1; findings(1) = 1""");
+            count(10) = 1; count(13) = 1; findings(1) = 1; text(2, 0) = 0; document(0, 2) = -4; finding() = 1;
+            findings(1) = 1; text(2, 1) = 1; document(0, 2) = -4; count(0) = 2""");
         Calls.run("promise 12: write", """
             write(0, 0) = -4; type(0, ' a ( b ( c d ) e ( f ( g ) ) ) '); document(0, 0) = 7; write(0, 1) = 15;
             spell(1, 'a(b(cd)e(f(g)))'); write(0, 0) = 15""");
@@ -204,6 +213,14 @@ public final class PromiseTest {
             mark(0, 4, 1) = 1; asked() = 0; mark(0, 7, 3) = 1; asked() = 0; mark(0, 4, 3) = 1; asked() = 2;
             mark(0, 5, 3) = -3; finding() = 3; mark(0, 3, 1) = -3; mark(0, 1, 1) = -3; mark(0, 2, 3) = -3;
             mark(0, 7, 2) = -3; mark(0, 7, 4) = -3; findings(3) = 6; asked() = 2""");
+        Calls.run("promise 14: the ancestors of leftmost and of last nodes", """
+            type(0, 'a(b(K(J)L)M)'); document(1, 0) = 6; mark(1, 0, 3) = 1; asked() = 3; mark(1, 1, 3) = 1; asked() = 2;
+            mark(1, 2, 3) = 1; asked() = 2; mark(1, 4, 3) = 1; asked() = 1; type(0, 'a(bcdefghijkJ)'); document(1, 0) = 12;
+            mark(1, 10, 3) = 1; asked() = 1; mark(1, 10, 1) = 1; asked() = 0""");
+        Calls.run("promise 14: Words among 12 nodes", """
+            type(0, '7'); document(0, 0) = 1; type(0, '7(66666666666)'); document(1, 0) = 12; mark(0, 0, 2) = 1;
+            asked() = 1; change(0, 0, 54) = 55; mark(0, 0, 2) = 1; asked() = 11; mark(1, 0, 2) = 1; asked() = 1;
+            mark(1, 11, 2) = 1; asked() = 0""");
         Calls.run("promise 14: Words and Notes", tree + """
             mark(0, 1, 2) = 1; asked() = 0; type(1, 'k(4k(44)k5)'); document(1, 1) = 7; mark(0, 1, 2) = 1; asked() = 3;
             mark(0, 2, 2) = 1; asked() = 3; mark(0, 2, 4) = 1; asked() = 5; mark(0, 1, 4) = -3; mark(0, 3, 2) = -3;
@@ -296,6 +313,14 @@ public final class PromiseTest {
             behind(1, 2) = 6; spell(2, 'a(cde)'); behind(2, 2) = 6; spell(2, 'f(cde)'); behind(3, 2) = 9;
             spell(2, 'f(cJ(de))'); behind(4, 2) = 12; spell(2, 'f(c(g)J(de))'); put(2, 12, 0) = -3; behind(5, 2) = -6;
             behind(2147483647, 2) = -6; spell(2, 'f(c(g)J(de))'); count(12) = 3; write(0, 3) = 9; write(1, 3) = 12""");
+        Calls.run("promise 19: behind as the first that is asked of two documents", """
+            type(0, 'a(bc)'); document(0, 0) = 3; type(1, 'a(de)'); document(1, 1) = 3; behind(1, 2) = 5;
+            spell(2, 'a(dc)'); change(1, 0, 98) = 100; behind(1, 2) = 5; spell(2, 'a(be)'); behind(2, 2) = -6;
+            behind(0, 2) = 5; spell(2, 'a(bc)')""");
+        Calls.run("promise 19: a deletion before relabellings, which keep to their nodes", """
+            price(2, 2) = 1; price(0, 4) = 1; price(1, 4) = 1; type(0, 'a(bcd)'); document(0, 0) = 4; type(1, 'e(fd)');
+            document(1, 1) = 3; least() = 8; count(3) = 3; partner(0, 1) = 0; behind(1, 2) = 5; spell(2, 'a(cd)');
+            behind(2, 2) = 5; spell(2, 'a(fd)'); behind(3, 2) = 5; spell(2, 'e(fd)'); behind(0, 2) = 6; spell(2, 'a(bcd)')""");
         Calls.run("promise 19: several trees, and none", """
             price(2, 9) = 1; type(0, 'a(bc)'); document(0, 0) = 3; type(1, 'A(BC)'); document(1, 1) = 3; count(4) = 0;
             count(3) = 6; behind(0, 3) = 5; spell(3, 'a(bc)'); behind(1, 3) = 4; spell(3, 'a(c)'); behind(2, 3) = 1;
@@ -327,6 +352,10 @@ public final class PromiseTest {
         Calls.run("promise 21: from document 0 to document 1 also for a node of document 1", """
             price(0, 5) = 1; type(0, 'a(b)'); document(0, 0) = 2; type(1, 'b(a)'); document(1, 1) = 2; nearest(1, 1) = 1;
             asked() = 2; nearest(0, 1) = 0; asked() = 1; nearest(1, 0) = 0; asked() = 1""");
+        Calls.run("promise 21: all nodes of the other document are looked at", """
+            type(0, 'a'); document(0, 0) = 1; type(0, 'A(BCDa)'); document(1, 0) = 5; nearest(0, 0) = 3; asked() = 0;
+            nearest(1, 4) = 0; asked() = 8; turn() = 5; nearest(1, 0) = 3; asked() = 0; nearest(0, 3) = 0; asked() = 0;
+            nearest(0, 4) = 0; asked() = 8""");
         Calls.run("promise 22: would", """
             would(0, 0, 97) = -1; type(0, 'a(b)'); document(0, 0) = 2; would(0, 0, 97) = -4; would(0, 0, 115) = -1;
             type(1, 'a(0)'); document(1, 1) = 2; would(0, 0, 49) = 1; asked() = 1; would(0, 0, 48) = 1; asked() = 0;
@@ -434,6 +463,9 @@ public final class PromiseTest {
             on(0) = -3; finding() = 1; on(3) = -1; on(-1) = -1; findings(1) = 1; type(0, 'a'); document(0, 0) = 1;
             document(1, 0) = 1; lots(20, 4); lots(20, 5); keep(2) = 40; undo(0) = 40; on(1) = -3; on(2) = 40;
             price(0, 2) = -2; lots(1, 1) = -2; undo(40) = 0; undo(0) = 40; least() = 0; on(2) = 40""");
+        Calls.run("promise 30: the state behind 40 changes", FORTY_CHANGES + """
+            undo(39) = 1; change(0, 0, 100) = 98; keep(0) = 40; undo(0) = 40; node(0, 0, 0); asked() = 98; count(7) = 1;
+            on(0) = 40; node(0, 0, 0); asked() = 100; count(7) = 2; undo(39) = 1; node(0, 0, 0); asked() = 98""");
     }
 
     private static void lots() {
@@ -478,6 +510,10 @@ public final class PromiseTest {
         } else if (z % 8 == 4 || z % 8 == 5) {
             Calls.run("promise 31: the only node, from " + seed, "type(0, 'a'); document(0, 0) = 1; document(1, 0) = 1;"
                 + "lots(1, " + seed + ") = 2; count(10) = 1; least() = 0; undo(0) = 1");
+        } else if (z % 8 <= 3) {
+            long letter = 97 + z / 1024 % 18;
+            Calls.run("promise 31: the only node, from " + seed, "type(0, 'A'); document(0, 0) = 1; document(1, 0) = 1;"
+                + "lots(1, " + seed + ") = 2; node(" + z / 2 % 2 + ", 0, 0); asked() = " + letter);
         }
     }
 
@@ -540,6 +576,10 @@ public final class PromiseTest {
             type(0, 'a(b)'); document(0, 0) = 2; type(0, 'a'); document(1, 0) = 1; digest() = """ + " "
             + hash(2, 1, 1, 1, 1, 1, 1, 1, 1, 1, 0, 0, 1, 0, 98, 0, 1, -9, 97, 0, -9, 0, 97, 0, -9, 1,
             -1, -1, -1, -1, -1, -1, -1, -1, -1, 1, 97, -1, -1, -1));
+        Calls.run("promise 36: digest of leftmost nodes", """
+            type(0, 'a(bc(d))'); document(0, 0) = 4; digest() = """ + " "
+            + hash(4, 0, -1, -1, -1, 2, 0, 1, 1, 1, 0, 0, 1, 0, 98, 0, 3, -1, 100, 1, 2, -1, 99, 1, 3, -1, 97, 0, -9, -1,
+            -1, -1, -1, -1, -1, -1, -1, -1, -1, 8, 97, 40, 98, 99, 40, 100, 41, 41, -1, -1, -1));
         Calls.run("promise 36: digest changes nothing", """
             type(0, 'a(b)'); document(0, 0) = 2; node(0, 0, 0); asked() = 98; digest(); asked() = 98; count(10) = 0""");
     }
