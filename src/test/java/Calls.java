@@ -1,13 +1,4 @@
-import java.lang.reflect.InvocationTargetException;
-import java.lang.reflect.Method;
-import java.util.ArrayList;
-import java.util.List;
-
-/**
- * Runs of calls that are written down as "name(arguments) = answer; ..", each on an object of its
- * own. Two calls are not of the class: type(t, 'text') lays a text down byte by byte, and
- * spell(t, 'text') looks whether a text has these bytes (its length is what write() returned).
- */
+/** What the tests share: they count what they look at, and say what was wrong. */
 final class Calls {
     private static int wrong = 0;
     private static int made = 0;
@@ -15,17 +6,8 @@ final class Calls {
     private Calls() {
     }
 
-    static void run(String title, String script) {
-        MarkScripts object = new MarkScripts();
-        for (String line : split(script)) {
-            int sign = line.lastIndexOf(" = ");
-            String call = sign < 0 ? line : line.substring(0, sign);
-            made++;
-            long got = answer(object, call);
-            if (sign >= 0 && got != Long.parseLong(line.substring(sign + 3).trim())) {
-                fail(title + ": " + line + ", but the answer was " + got);
-            }
-        }
+    static void count() {
+        made++;
     }
 
     static void fail(String what) {
@@ -50,6 +32,10 @@ final class Calls {
         }
     }
 
+    static void run(String title, String script) {
+        Script.run(title, script);
+    }
+
     static void type(MarkScripts object, int t, String text) {
         object.text(t, text.length());
         for (int i = 0; i < text.length(); i++) {
@@ -65,49 +51,5 @@ final class Calls {
             text.append((char) v);
         }
         return text.toString();
-    }
-
-    private static List<String> split(String script) {
-        List<String> lines = new ArrayList<>();
-        for (String line : script.replace('\n', ' ').split(";")) {
-            if (!line.isBlank()) {
-                lines.add(line.strip());
-            }
-        }
-        return lines;
-    }
-
-    private static long answer(MarkScripts object, String call) {
-        int open = call.indexOf('(');
-        String name = call.substring(0, open).strip();
-        String inside = call.substring(open + 1, call.lastIndexOf(')'));
-        if (name.equals("type") || name.equals("spell")) {
-            int t = Integer.parseInt(inside.substring(0, inside.indexOf(',')).strip());
-            String text = inside.substring(inside.indexOf('\'') + 1, inside.lastIndexOf('\''));
-            if (name.equals("type")) {
-                type(object, t, text);
-            } else if (!spell(object, t, text.length()).equals(text)) {
-                fail(call + ", but it is " + spell(object, t, text.length()));
-            }
-            return 0;
-        }
-        return invoke(object, name, inside.isBlank() ? new String[0] : inside.split(","));
-    }
-
-    static long invoke(Object object, String name, String... arguments) {
-        Object[] values = new Object[arguments.length];
-        Class<?>[] types = new Class<?>[arguments.length];
-        for (int i = 0; i < values.length; i++) {
-            values[i] = Integer.parseInt(arguments[i].strip());
-            types[i] = int.class;
-        }
-        try {
-            Method method = object.getClass().getDeclaredMethod(name, types);
-            return ((Number) method.invoke(object, values)).longValue();
-        } catch (InvocationTargetException e) {
-            throw new IllegalStateException(name + " threw " + e.getCause(), e);
-        } catch (ReflectiveOperationException e) {
-            throw new IllegalStateException("no such call: " + name, e);
-        }
     }
 }

@@ -1,4 +1,5 @@
 import java.util.ArrayList;
+import java.util.Arrays;
 import java.util.List;
 import java.util.Random;
 
@@ -39,13 +40,10 @@ public final class ModelTest {
     }
 
     private void call(String name, int... arguments) {
-        String[] words = new String[arguments.length];
-        for (int i = 0; i < words.length; i++) {
-            words[i] = Integer.toString(arguments[i]);
-        }
-        calls.add(name + "(" + String.join(", ", words) + ")");
-        long due = Calls.invoke(model, name, words);
-        long got = Calls.invoke(object, name, words);
+        String inside = Arrays.toString(arguments);
+        calls.add(name + "(" + inside.substring(1, inside.length() - 1) + ")");
+        long due = Tape.invoke(model, name, arguments);
+        long got = Tape.invoke(object, name, arguments);
         Calls.equal("", 0, 0);
         if (got != due && !wrong) {
             wrong = true;
