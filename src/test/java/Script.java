@@ -119,6 +119,11 @@ final class Script {
             case "array": case "has":
                 array(line, name.equals("array"));
                 return true;
+            case "nodes":
+                nodes(line);
+                return true;
+            case "fault":
+                return faultOfText(line);
             default:
                 return false;
         }
@@ -199,6 +204,28 @@ final class Script {
             same(line + ": element " + i, tape.call("asked"), make ? 0 : values[i]);
         }
         same(line + ": the end", tape.call("at", r, values.length), MarkScripts.FINDING);
+    }
+
+    /** nodes(d, what: values): what node() tells of all nodes of a document, which has no more than these. */
+    private void nodes(String line) {
+        int d = first(line);
+        int what = first(line.substring(line.indexOf(',')).replace(',', '('));
+        int[] values = numbers(line.substring(line.indexOf(':') + 1, line.lastIndexOf(')')));
+        for (int x = 0; x < values.length; x++) {
+            same(line + ": node()", tape.call("node", d, x, what), 1);
+            same(line + ": node " + x, tape.call("asked"), values[x]);
+        }
+        same(line + ": the end", tape.call("node", d, values.length, what), MarkScripts.BAD);
+    }
+
+    /** fault('text') = due: the fault of text 1, which becomes this. */
+    private boolean faultOfText(String line) {
+        if (line.indexOf('\'') < 0) {
+            return false;
+        }
+        tape.type(1, quoted(line, 0));
+        same(line, tape.call("fault", 1), number(line.substring(line.lastIndexOf(" = ") + 3).strip()));
+        return true;
     }
 
     /** A call that leaves everything as it was, but for asked() if it may tell, and the findings. */
