@@ -224,7 +224,7 @@ public final class MarkScripts {
         if (!state.isWhole()) {
             return STATE;
         }
-        refresh();
+        ways.refresh();
         return ways.distance();
     }
 
@@ -232,7 +232,7 @@ public final class MarkScripts {
         if (noNode(0, x) || noNode(1, y)) {
             return BAD;
         }
-        refresh();
+        ways.refresh();
         told = ways.swaps[x][y];
         return ways.apart[x][y];
     }
@@ -244,7 +244,7 @@ public final class MarkScripts {
         if (!state.isWhole()) {
             return STATE;
         }
-        refresh();
+        ways.refresh();
         return ways.partnerOf(d, x);
     }
 
@@ -255,7 +255,7 @@ public final class MarkScripts {
         if (!state.isWhole()) {
             return STATE;
         }
-        refresh();
+        ways.refresh();
         Steps steps = ways.steps;
         if (k >= steps.count) {
             return NONE;
@@ -277,7 +277,7 @@ public final class MarkScripts {
         if (!state.isWhole()) {
             return STATE;
         }
-        refresh();
+        ways.refresh();
         if (k > ways.steps.count) {
             return SPENT;
         }
@@ -303,7 +303,7 @@ public final class MarkScripts {
         if (!state.isWhole()) {
             return STATE;
         }
-        refresh();
+        ways.refresh();
         int best = 0;
         for (int y = 1; y < state.tree(1 - d).size; y++) {
             if (ways.between(d, x, y) < ways.between(d, x, best)) {
@@ -474,7 +474,7 @@ public final class MarkScripts {
         if (what < 0 || what > 13) {
             return BAD;
         }
-        refresh();
+        ways.refresh();
         return number(what);
     }
 
@@ -490,7 +490,7 @@ public final class MarkScripts {
     }
 
     public long digest() {
-        refresh();
+        ways.refresh();
         long h = 17L;
         for (int what = 0; what <= 13; what++) {
             h = 31L * h + number(what);
@@ -539,12 +539,6 @@ public final class MarkScripts {
         latest = f;
         tally[f]++;
         return FINDING;
-    }
-
-    private void refresh() {
-        if (ways.stale && state.isWhole()) {
-            ways.solve();
-        }
     }
 
     private void record() {
@@ -1172,11 +1166,14 @@ public final class MarkScripts {
         private final int[] partners = new int[NODES];
         private final int[] origins = new int[NODES];
 
-        void solve() {
-            measure();
-            pairUp();
-            listSteps();
-            stale = false;
+        /** Solves what a change has made stale, if both documents are there. */
+        void refresh() {
+            if (stale && state.isWhole()) {
+                measure();
+                pairUp();
+                listSteps();
+                stale = false;
+            }
         }
 
         int distance() {
