@@ -83,8 +83,8 @@ final class DeedEdges {
     }
 
     private static void lotsThatDoNothing() {
-        String title = Sentence.quote(31, "Something that is not possible, as in cut() and add(), does nothing, but is recorded as"
-            + " a change, too");
+        String title = Sentence.quote(31, "Something that is not possible, as in cut() and add(), does nothing, but is"
+            + " recorded as a change, too");
         for (int from = 1; from < 1900000000; from += 199999999) {
             nothing(title, "a", "b", seed(from, 4));
             nothing(title, "a", "b", seed(from, 5));
@@ -116,7 +116,7 @@ final class DeedEdges {
     private static void everyLot() {
         Sentence.quote(31, "A number z is seed at first");
         Sentence.quote(31, "For each change z becomes 48271 * z % 2147483647 (without overflow)");
-        Sentence.quote(31, "d is z / 2 % 2 and x is z / 64 % (number of nodes of document d), with divisions that are rounded down");
+        Sentence.quote(31, "d is z / 2 % 2 and x is z / 64 % (number of nodes of document d)");
         Sentence.quote(31, "By z % 8: 0 to 3, node x of document d gets the code 97 + z / 1024 % 18");
         Sentence.quote(31, "4 or 5, it is deleted");
         Sentence.quote(31, "6, a node with the code 48 + z / 1024 % 10 becomes its first child, without children");

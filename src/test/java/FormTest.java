@@ -29,6 +29,8 @@ public final class FormTest {
         String source = Files.readString(FILE);
         checkWords(withoutComments(source));
         checkLengths(source);
+        checkStaticFields();
+        same("the file has signs up to 126 only", source.chars().allMatch(c -> c == '\n' || c >= 32 && c <= 126), true);
         Calls.end("FormTest");
     }
 
@@ -94,6 +96,18 @@ public final class FormTest {
         }
         Collections.sort(got);
         same("the constants", got.toString(), "[BAD -1, FINDING -3, FULL -2, NONE -9, SPENT -6, STATE -4]");
+    }
+
+    private static void checkStaticFields() {
+        Set<Class<?>> constants = Set.of(int.class, long.class, boolean.class, char.class, String.class);
+        for (Class<?> inside : MarkScripts.class.getDeclaredClasses()) {
+            for (Field field : inside.getDeclaredFields()) {
+                if (Modifier.isStatic(field.getModifiers())) {
+                    same(field + " is final", Modifier.isFinal(field.getModifiers()), true);
+                    same(field + " is a constant", constants.contains(field.getType()), true);
+                }
+            }
+        }
     }
 
     private static String withoutComments(String source) {

@@ -14,8 +14,16 @@ import java.util.regex.Pattern;
  *   refused  it changes nothing but what finding() and findings() return
  *   still    it may tell something by asked(), but changes nothing else
  *
- * "refused BAD: call, call" stands for several refused calls with the same answer. The lines of
- * shorthand() are no calls of the class.
+ * "refused BAD: call, call" stands for several refused calls with the same answer. Lines that stand
+ * for several calls:
+ *
+ *   type(t, 'text'), spell(t, 'text')       lays a text down; looks whether a text is this one
+ *   one(d, 'tree'), two('tree', 'tree')     reads one document, or both, by way of text 0
+ *   reads(d, 'tree'), after(k, 'trees')     what write(d, 3) or behind(k, 3) writes
+ *   fault('text') = due                     the fault of text 1, which becomes this
+ *   array(r: 1, 2), has(r: 1, 2)            makes an array; looks whether it has these elements
+ *   nodes(d, what: 1, 2)                    what node() tells of all nodes of a document
+ *   RICH, FORTY, THIRTY_NINE, FORTY_PRICES  a beginning, see scene()
  */
 final class Script {
     private static final Map<String, Integer> NAMES =
@@ -133,7 +141,7 @@ final class Script {
     private static String scene(String name) {
         switch (name) {
             case "RICH":
-                // whatever a wrong call could spoil: arrays, texts, documents, a price, changes, a saved state, and what was told
+                // whatever a wrong call could spoil: arrays, texts, documents, a price, changes, a saved state, something told
                 return """
                     row(0, 3) = 3; lay(0, 0, 7) = 1; lay(0, 1, -8) = 1; lay(0, 2, 9) = 1; row(5, 40) = 40; lay(5, 39, 5) = 1;
                     type(0, 'a(b(cd)K1)'); document(0, 0) = 6; type(3, 'A(b(0)k)'); document(1, 3) = 4; price(0, 2) = 1;
@@ -192,10 +200,14 @@ final class Script {
         same(line + ": document()", tape.call("document", d, 0), text.replaceAll("[() ]", "").length());
     }
 
+    private static int[] behindColon(String line) {
+        return numbers(line.substring(line.indexOf(':') + 1, line.lastIndexOf(')')));
+    }
+
     /** array(r: elements) makes an array, has(r: elements) looks whether it has these and no more. */
     private void array(String line, boolean make) {
         int r = first(line);
-        int[] values = numbers(line.substring(line.indexOf(':') + 1, line.lastIndexOf(')')));
+        int[] values = behindColon(line);
         if (make) {
             same(line + ": row()", tape.call("row", r, values.length), values.length);
         }
@@ -208,14 +220,13 @@ final class Script {
 
     /** nodes(d, what: values): what node() tells of all nodes of a document, which has no more than these. */
     private void nodes(String line) {
-        int d = first(line);
-        int what = first(line.substring(line.indexOf(',')).replace(',', '('));
-        int[] values = numbers(line.substring(line.indexOf(':') + 1, line.lastIndexOf(')')));
+        int[] head = numbers(line.substring(line.indexOf('(') + 1, line.indexOf(':')));
+        int[] values = behindColon(line);
         for (int x = 0; x < values.length; x++) {
-            same(line + ": node()", tape.call("node", d, x, what), 1);
+            same(line + ": node()", tape.call("node", head[0], x, head[1]), 1);
             same(line + ": node " + x, tape.call("asked"), values[x]);
         }
-        same(line + ": the end", tape.call("node", d, values.length, what), MarkScripts.BAD);
+        same(line + ": the end", tape.call("node", head[0], values.length, head[1]), MarkScripts.BAD);
     }
 
     /** fault('text') = due: the fault of text 1, which becomes this. */
