@@ -1,7 +1,10 @@
 /** Every sentence of the document that a call can break, with the edges it names; see Sentence. */
 public final class EdgesTest {
+    private static final String[] FILES =
+        {"opening.txt", "rows.txt", "documents.txt", "ways.txt", "deeds.txt", "telling.txt"};
+
     public static void main(String[] args) {
-        for (String file : new String[] {"rows.txt", "documents.txt", "ways.txt", "deeds.txt", "telling.txt"}) {
+        for (String file : FILES) {
             Sentence.runFile(file);
         }
         RowEdges.all();

@@ -16,10 +16,8 @@ import java.util.regex.Pattern;
 /** The document's public face, and the rules of LANGUAGE.md that can be read off the file. */
 public final class FormTest {
     private static final Path FILE = Path.of("src/main/java/MarkScripts.java");
-    private static final String FACE = """
-        row 2, lay 3, at 2, tear 1, copy 5, mean 1, text 2, put 3, fault 1, document 2, write 2, node 3,
-        mark 3, least 0, cost 2, partner 2, step 2, behind 2, work 1, nearest 2, would 3, change 3, cut 2,
-        add 5, price 2, turn 0, undo 1, keep 1, on 1, lots 2, asked 0, count 1, finding 0, findings 1, digest 0""";
+    private static final Pattern SIGNATURE = Pattern.compile(" {4}public ((?:int|long) \\w+\\(.*\\))(;| \\{)");
+    private static final int METHODS = 35;
     private static final String WORDS = "throw|throws|try|catch|finally|synchronized|assert|import|package|volatile"
         + "|native|Object|System\\.(?!arraycopy)\\w+|var|Exception|Error|Random|Thread|Math\\.(?!min|max|abs)\\w+|\\w+Exact";
 
@@ -27,6 +25,7 @@ public final class FormTest {
         checkMembers();
         checkConstants();
         String source = Files.readString(FILE);
+        checkSignatures(source);
         checkWords(withoutComments(source));
         checkLengths(source);
         checkStaticFields();
@@ -34,21 +33,46 @@ public final class FormTest {
         Calls.end("FormTest");
     }
 
+    private static List<String> face() {
+        return signatures(Page.document().section("The public face").block("java"));
+    }
+
+    private static List<String> signatures(List<String> lines) {
+        List<String> found = new ArrayList<>();
+        for (String line : lines) {
+            Matcher signature = SIGNATURE.matcher(line);
+            if (signature.matches()) {
+                found.add(signature.group(1));
+            }
+        }
+        return found;
+    }
+
+    /** The file has the methods in the order and with the names of the document, as the promises have. */
+    private static void checkSignatures(String source) {
+        List<String> promised = new ArrayList<>();
+        Matcher promises = Pattern.compile("\n## Promise \\d+: (\\w+)\n\n`(.*)`\n").matcher(Page.document().text);
+        while (promises.find()) {
+            promised.add(promises.group(2));
+        }
+        same("methods of the document's face", face().size(), METHODS);
+        same("the signatures of the promises", promised, face());
+        same("the methods in the file", signatures(List.of(source.split("\n"))), face());
+    }
+
     private static void checkMembers() {
         Set<String> due = new TreeSet<>();
-        for (String entry : FACE.replaceAll("\\s+", " ").split(", ")) {
-            due.add(entry.strip());
+        for (String signature : face()) {
+            due.add(signature.replaceAll("int \\w+([,)])", "int$1"));
         }
         Set<String> got = new TreeSet<>();
         Set<String> names = new TreeSet<>();
         for (Method method : MarkScripts.class.getDeclaredMethods()) {
             if (!Modifier.isPrivate(method.getModifiers())) {
-                got.add(method.getName() + " " + method.getParameterCount());
+                String types = Arrays.toString(method.getParameterTypes()).replace('[', '(').replace(']', ')');
+                got.add(method.getReturnType() + " " + method.getName() + types);
                 names.add(method.getName());
-                Class<?> type = method.getName().equals("digest") ? long.class : int.class;
-                same(method + " returns", method.getReturnType(), type);
                 same(method + " is", method.getModifiers(), Modifier.PUBLIC);
-                same(method + " takes ints", Arrays.stream(method.getParameterTypes()).allMatch(t -> t == int.class), true);
             }
         }
         same("the public methods", got, due);

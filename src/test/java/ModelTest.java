@@ -5,7 +5,7 @@ import java.util.Random;
 
 /** Long runs of calls, right and wrong ones, on the class and on the model; both must agree on all. */
 public final class ModelTest {
-    private static final int RUNS = 220, LENGTH = 130;
+    private static final int RUNS = 220, LENGTH = 250;
     private static final String LABELS = "abirABIR0135jkrJKR";
     private static final int[] ODD = {Integer.MIN_VALUE, -2, -1, 41, 61, 1000, Integer.MAX_VALUE};
 
@@ -27,7 +27,8 @@ public final class ModelTest {
     }
 
     private void run(int run) {
-        for (int c = 0; c < LENGTH && !wrong; c++) {
+        int length = run % 5 == 0 ? Tape.MOST_CALLS : LENGTH;
+        for (int c = 0; calls.size() < length - 1 && !wrong; c++) {
             if (c == 3 || random.nextInt(25) == 0) {
                 read(random.nextInt(2), run % 3 == 0 ? 5 : 12);
             } else if (random.nextInt(9) == 0) {
@@ -40,6 +41,9 @@ public final class ModelTest {
     }
 
     private void call(String name, int... arguments) {
+        if (calls.size() == Tape.MOST_CALLS) {
+            return;
+        }
         String inside = Arrays.toString(arguments);
         calls.add(name + "(" + inside.substring(1, inside.length() - 1) + ")");
         long due = Tape.invoke(model, name, arguments);

@@ -1,7 +1,3 @@
-import java.io.IOException;
-import java.io.UncheckedIOException;
-import java.nio.file.Files;
-import java.nio.file.Path;
 import java.util.ArrayList;
 import java.util.HashMap;
 import java.util.List;
@@ -9,13 +5,12 @@ import java.util.Map;
 
 /**
  * The sentences of the document, each with runs of calls that would show it broken. A quoted
- * sentence must stand in the document, in the section of its promise (0 for the description), and
- * every sentence there must be quoted by a test.
+ * sentence must stand in the document, in the section of its promise (0 for the description, -1 for
+ * what stands before it), and every sentence there must be quoted by a test.
  */
 final class Sentence {
-    static final int DESCRIPTION = 0, PROMISES = 36;
-    private static final Path DOCUMENT = Path.of("../shared/DOC.md");
-    private static final Path FILES = Path.of("src/test/sentences");
+    static final int OPENING = -1, DESCRIPTION = 0, PROMISES = 36;
+    private static final String FILES = "src/test/sentences/";
 
     private static final Map<Integer, List<String>> QUOTED = new HashMap<>();
     private static Map<Integer, String> sections;
@@ -24,14 +19,14 @@ final class Sentence {
     }
 
     /**
-     * Carries out a file: "== promise n" or "== description" says where the sentences stand that
-     * follow; a sentence is quoted behind "> ", and what stands below it, up to an empty line, is a
-     * run for it (see Script), as is each paragraph up to the next sentence.
+     * Carries out a file: "== promise n", "== description" or "== what it is" says where the
+     * sentences stand that follow; a sentence is quoted behind "> ", and what stands below it, up to
+     * an empty line, is a run for it (see Script), as is each paragraph up to the next sentence.
      */
     static void runFile(String name) {
         int promise = DESCRIPTION;
         String words = "";
-        for (String paragraph : read(FILES.resolve(name)).split("\n\\s*\n")) {
+        for (String paragraph : Page.read(FILES + name).text.split("\n\\s*\n")) {
             StringBuilder quoted = new StringBuilder();
             StringBuilder run = new StringBuilder();
             for (String line : paragraph.split("\n")) {
@@ -53,7 +48,14 @@ final class Sentence {
     }
 
     private static int section(String head) {
-        return head.equals("description") ? DESCRIPTION : Integer.parseInt(head.replace("promise ", ""));
+        switch (head) {
+            case "what it is":
+                return OPENING;
+            case "description":
+                return DESCRIPTION;
+            default:
+                return Integer.parseInt(head.replace("promise ", ""));
+        }
     }
 
     /** Says that a test is for these words, and returns what it is called. */
@@ -67,12 +69,13 @@ final class Sentence {
     }
 
     private static String title(int promise, String words) {
-        return (promise == DESCRIPTION ? "description" : "promise " + promise) + ", \"" + normal(words) + "\"";
+        String section = promise == OPENING ? "what it is" : promise == DESCRIPTION ? "description" : "promise " + promise;
+        return section + ", \"" + normal(words) + "\"";
     }
 
     /** Fails for each sentence of the document that no test has quoted. */
     static void checkThatAllAreQuoted() {
-        for (int promise = DESCRIPTION; promise <= PROMISES; promise++) {
+        for (int promise = OPENING; promise <= PROMISES; promise++) {
             List<String> parts = parts(sections().getOrDefault(promise, ""));
             Calls.equal("sentences of section " + promise, parts.isEmpty() ? 0 : 1, 1);
             for (String part : parts) {
@@ -113,10 +116,12 @@ final class Sentence {
     private static Map<Integer, String> sections() {
         if (sections == null) {
             sections = new HashMap<>();
-            for (String part : read(DOCUMENT).split("\n## ")) {
+            for (String part : Page.document().text.split("\n## ")) {
                 String head = part.substring(0, Math.max(0, part.indexOf('\n')));
                 String body = part.substring(head.length());
-                if (head.equals("Description")) {
+                if (head.equals("What it is")) {
+                    sections.put(OPENING, body);
+                } else if (head.equals("Description")) {
                     sections.put(DESCRIPTION, body.substring(0, Math.max(0, body.indexOf("\nExamples:"))));
                 } else if (head.startsWith("Promise ")) {
                     sections.put(Integer.parseInt(head.substring(8, head.indexOf(':'))), body);
@@ -124,13 +129,5 @@ final class Sentence {
             }
         }
         return sections;
-    }
-
-    private static String read(Path file) {
-        try {
-            return Files.readString(file);
-        } catch (IOException e) {
-            throw new UncheckedIOException(e);
-        }
     }
 }

@@ -7,6 +7,7 @@ final class TellingEdges {
         constants();
         digestsOfLots();
         longestRun();
+        laterCalls();
     }
 
     private static void constants() {
@@ -46,13 +47,30 @@ final class TellingEdges {
         Calls.equal(title + ", a second time", tape.call("digest"), due);
     }
 
-    /** The document speaks of 512 calls of one object. */
+    /** Findings are what a run can have most of. */
     private static void longestRun() {
-        String title = Sentence.quote(35, "Returns how often a finding was returned");
+        String title = Sentence.quote(Sentence.OPENING, "An object is used for at most 512 calls after it has been made");
         MarkScripts object = new MarkScripts();
         for (int c = 0; c < Tape.MOST_CALLS - 1; c++) {
             object.tear(c % 6);
         }
-        Calls.equal(title + ", in 511 calls", object.findings(1), Tape.MOST_CALLS - 1);
+        Calls.equal(title + ": findings(1) after 511 calls", object.findings(1), Tape.MOST_CALLS - 1);
+    }
+
+    /** LANGUAGE.md asks of any call in any state that it does not throw, so also of the later ones. */
+    private static void laterCalls() {
+        String title = Sentence.quote(Sentence.OPENING, "what later calls answer is free");
+        MarkScripts object = new MarkScripts();
+        Calls.type(object, 0, "a(b(cd)K1)");
+        for (int c = 0; c < 20 * Tape.MOST_CALLS; c++) {
+            object.document(c / 40 % 2, c % 100 < 50 ? 0 : 1);
+            object.lots(1 + c % 20, 1 + c);
+            object.behind(c % 24, 1);
+            object.keep(c % 3);
+            object.add(c % 2, c % 12, 0, c % 2, 48 + c % 10);
+            object.on((c + 1) % 3);
+            object.digest();
+        }
+        Calls.equal(title + ", and there is one", object.count(0) > 0 ? 1 : 0, 1);
     }
 }
