@@ -28,6 +28,7 @@ public final class FormTest {
         checkSignatures(source);
         checkWords(withoutComments(source));
         checkLengths(source);
+        checkDepth(withoutComments(source));
         checkStaticFields();
         same("the file has signs up to 126 only", source.chars().allMatch(c -> c == '\n' || c >= 32 && c <= 126), true);
         Calls.end("FormTest");
@@ -160,6 +161,13 @@ public final class FormTest {
                 start = -1;
             }
         }
+    }
+
+    /** The class has no recursion, so all its calls count. */
+    private static void checkDepth(String code) {
+        CallDepth depth = new CallDepth(code);
+        same("the methods that were found are many", depth.methods() > 2 * METHODS, true);
+        same("calls go at most eight deep", depth.greatest() > 1 && depth.greatest() <= 8, true);
     }
 
     private static void same(String what, Object got, Object due) {
